@@ -842,7 +842,7 @@ public final class WallsByTheHour {
         }
 
         int needOf(int house) {
-            return needAt(house, hour % PARTS) + wet;
+            return need[house * PARTS + hour % PARTS] + wet;
         }
 
         int lackOf(int house) {
@@ -1423,7 +1423,9 @@ public final class WallsByTheHour {
 
         int bestLoan(Street now, int n) {
             int found = NONE;
-            int least = after(now, n).allLacking();
+            begin(now);
+            goOn(n);
+            int least = mind.allLacking();
             for (int wall = 0; wall < now.walls; wall++) {
                 for (int house = 0; house < HOUSES; house++) {
                     begin(now);

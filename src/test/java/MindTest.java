@@ -11,6 +11,7 @@ final class MindTest {
         shown();
         asked();
         coughs();
+        atTheEdgeOfSixty();
         lend();
         two();
         twoRefusals();
@@ -128,6 +129,30 @@ final class MindTest {
         Due.due("of two walls", x.coughs(0, 3, 1), 2);
     }
 
+    /** What comes just 60 HOURS on is told, what comes 61 on is not. */
+    private static void atTheEdgeOfSixty() {
+        WallsByTheHour x = Due.told("wb64;wb46;ww71;wo84;wf27;wp57;m01;m10;m25;m32;m41;m51;");
+        Due.tell(x, "n0002010;n1030000;n2000100;n3000065;n4003009;n5300000;n6904608;n7000498;h04;");
+        Due.due("home behind 61", x.goes(3, 0), -9);
+        x.hours(1);
+        Due.due("home behind 60", x.goes(3, 0), 60);
+        x = Due.told("wb86;wf57;ww50;ww34;wb92;wb94;wo01;m00;m11;m25;m33;m43;m50;m65;");
+        Due.tell(x, "n0301610;n1027063;n2690050;n3230400;n4600051;n5509506;h41;");
+        Due.due("gone behind 61", x.goes(6, 1), -9);
+        x.hours(1);
+        Due.due("gone behind 60", x.goes(6, 1), 60);
+        x = Due.told("wb27;wl05;ww21;wo87;wp96;ww56;m06;m17;m27;m30;m45;m57;");
+        Due.tell(x, "n0540100;n1293002;n2081300;n3300080;n4003400;n5030901;n6800000;n7950700;h06;");
+        Due.due("shown behind 61", x.shown(5), -9);
+        x.hours(1);
+        Due.due("shown behind 60", x.shown(5), 60);
+        x = Due.told("wl32;wp70;ww87;wb97;ww85;wf87;m14;m26;m35;m46;m51;");
+        Due.tell(x, "n0105705;n1305859;n2406000;n3800000;n5700406;n6874184;n7319341;h11;");
+        Due.due("asked behind 61", x.asked(), -9);
+        x.hours(1);
+        Due.due("asked behind 60", x.asked(), 60);
+    }
+
     private static void lend() {
         WallsByTheHour x = Due.told("wb10;n7222222;");
         Due.due("where it is most lacking", x.lend(0), 7);
@@ -156,6 +181,8 @@ final class MindTest {
         Due.due("the other one's home", x.two(0, 1, 1), 1);
         Due.due("the first one's home", x.two(1, 0, 1), 10);
         Due.due("none lacks", Due.told("ww40;ww41;").two(0, 1, 30), 0);
+        x = Due.told("wl01;wp46;wb55;wf70;m12;m11;m07;n1045220;n3168685;n6070800;n7000009;n2005110;n4900010;");
+        Due.due("no pair holds", x.two(0, 1, 3), -9);
     }
 
     private static void twoRefusals() {
