@@ -22,7 +22,6 @@ public final class WallsByTheHour {
     private final Street now = new Street();
     private final Street keptStreet = new Street();
     private final History seen = new History();
-    private final History keptSeen = new History();
     private boolean hasImage = false;
     private final Letters letters = new Letters();
     private final Row told = new Row();
@@ -529,7 +528,6 @@ public final class WallsByTheHour {
 
     public int image() {
         keptStreet.copyFrom(now);
-        keptSeen.copyFrom(seen);
         hasImage = true;
         return now.hour;
     }
@@ -539,7 +537,6 @@ public final class WallsByTheHour {
             return refuse(STATE);
         }
         now.copyFrom(keptStreet);
-        seen.copyFrom(keptSeen);
         return now.hour;
     }
 
@@ -965,13 +962,12 @@ public final class WallsByTheHour {
         }
     }
 
-    /** Which houses were seen at each HOUR. */
+    /**
+     * Which houses were seen at each HOUR. Going ON from THE IMAGE needs no second one: up to its HOUR
+     * nothing is written again, and what stands behind the HOUR is never asked for.
+     */
     private static final class History {
         private final int[] seenAt = new int[LAST_HOUR + 1];
-
-        void copyFrom(History other) {
-            System.arraycopy(other.seenAt, 0, seenAt, 0, LAST_HOUR + 1);
-        }
 
         void write(int hour, int houses) {
             if (hour >= 0 && hour <= LAST_HOUR) {

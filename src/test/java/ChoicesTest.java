@@ -114,6 +114,7 @@ final class ChoicesTest {
         Due.due("one wall is always envied", Due.told("ww40;").shares(0, 1), -9);
         Due.due("without walls nobody envies", new WallsByTheHour().shares(0, 1), 0);
         Due.due("one that is worth as much as two", Due.told("wb30;wb30;wf50;").shares(0, 1), 3);
+        Due.due("8 and what it covers", Due.told("ww00;ww00;ww80;").shares(0, 1), 3);
         Due.due("most together", Due.told("ww40;ww41;ww40;ww41;").shares(0, 1), 5);
         Due.due("shares(0, 0)", x.shares(0, 0), -1);
         Due.due("shares(8, 0)", x.shares(8, 0), -1);
@@ -143,6 +144,11 @@ final class ChoicesTest {
         Due.due("none warmer", x.best(4), 0);
         x.hours(1);
         Due.due("at another part", x.best(0), 2);
+        x = Due.told("wo20;");
+        for (int hour = 0; hour < 12; hour++) {
+            Due.due("warmer at " + hour, x.best(4), hour % 6 == 5 ? 1 : 0);
+            x.hours(1);
+        }
         x = Due.told("ww20;wo53;wo04;h05;");
         Due.due("warmer as the next day comes", x.best(4), 6);
         x.hours(1);

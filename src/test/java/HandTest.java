@@ -238,7 +238,6 @@ final class HandTest {
         Due.due("image()", x.image(), 3);
         x.row(7);
         x.letter('w');
-        x.takes(0, 6);
         x.sells(0, 5);
         x.turn(0, 2, 9);
         x.needs(1, 0, 8);
@@ -251,8 +250,10 @@ final class HandTest {
         Due.due("hour", x.count(1), 3);
         Due.due("at", x.wall(0, 3), 1);
         Due.due("owner", x.wall(0, 2), 0);
-        Due.due("kind and figure", x.turn(0, 0, 4), 4);
+        Due.due("covers", x.wall(0, 5), 5);
+        Due.due("has", x.house(1, 1), 5);
         Due.due("need", x.needs(1, 0, 1), 1);
+        Due.due("kind and figure", x.turn(0, 0, 4), 4);
         Due.due("bars", x.house(1, 5), 4);
         Due.due("holes", x.wall(0, 4), 1);
         Due.due("row as it is", x.count(6), 1);

@@ -78,10 +78,10 @@ final class LettersTest {
     private static void formFaults() {
         String[] texts = {"", "x", "W", ";", "ww90;;", "ww90;w", "w", "ww", "wx", "w4", "ww9", "wwx", "ww9;", "ww9x", "ww08",
             "ww080", "ww08x", "m", "m0", "m0;", "mx", "m01", "m011", "s0 ", "n", "n0", "n0123456", "n012345;", "n01234567;",
-            "b", "bb", "b0", "b01,", "h", "h1", "h1;", "h01", "h011;", "h01;m", "h01;h", "b33;x", "ww99;q", "\u00e9"};
+            "b", "bb", "b0", "b01,", "h", "h1", "h1;", "h01", "h011;", "h01;m", "h01;h", "b33;x", "ww99;q", "\u00e9", "ww:0;", "ww/0;", "ww0:;", "m0:;"};
         int[] places = {0, 0, 0, 0, 5, 6, 1, 2, 1, 1, 3, 2, 3, 3, 4,
             4, 4, 1, 2, 2, 1, 3, 3, 2, 1, 2, 8, 7, 8,
-            1, 1, 2, 3, 1, 2, 2, 3, 3, 5, 5, 4, 5, 0};
+            1, 1, 2, 3, 1, 2, 2, 3, 3, 5, 5, 4, 5, 0, 2, 2, 3, 2};
         WallsByTheHour x = new WallsByTheHour();
         for (int i = 0; i < texts.length; i++) {
             Due.due("street '" + texts[i] + "'", Due.tell(x, texts[i]), -1000 - places[i]);

@@ -165,6 +165,8 @@ final class MindTest {
         Due.due("which a wall does not reach", x.lend(3), 1);
         x = Due.told("wl90;n6444444;");
         Due.due("hours on from beside it", x.lend(1), 5);
+        Due.due("to the first house", Due.told("ww17;n0111111;").lend(0), 0);
+        Due.due("each by itself", Due.told("ww20;ww21;n0333333;n5111111;").lend(0), 15);
         Due.due("lend(-1)", x.lend(-1), -4);
         Due.due("lend(13)", x.lend(13), -6);
         Due.due("lend(12)", x.lend(12), 5);

@@ -12,6 +12,7 @@ final class OddsTest {
         rainRefusals();
         mean();
         lots();
+        lotsWalk();
         lotsTakeWalls();
     }
 
@@ -60,6 +61,7 @@ final class OddsTest {
         x = Due.told("n0555555;");
         Due.due("in mind alone", x.rain(0, 6, 2, 0), 1);
         Due.due("no rain now", x.house(0, 0), 5);
+        Due.due("no rain in mind later", x.allLack(1), 5);
         Due.due("no hour", x.count(1), 0);
     }
 
@@ -110,6 +112,13 @@ final class OddsTest {
         Due.due("lots(20, 0, 2)", x.lots(20, 0, 2), -2);
         Due.due("lots(20, 0, -1)", x.lots(20, 0, -1), -2);
         Due.due("in mind alone", x.count(1), 2);
+    }
+
+    private static void lotsWalk() {
+        WallsByTheHour x = Due.told("wb90;n5222222;");
+        Due.due("from any house to where it lacks", x.lots(20, 3, 0), 0);
+        x.needs(2, 0, 9);
+        Due.due("and on to where it lacks more", x.lots(20, 3, 0), 20 * 6);
     }
 
     /** Two LANES of which the first one alone closes house 5 in, and only if it is taken there by lot. */
