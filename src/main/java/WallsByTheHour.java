@@ -1525,7 +1525,7 @@ public final class WallsByTheHour {
                 begin(now);
                 for (int wall = 0; wall < mind.walls; wall++) {
                     z = z * 1664525 + 1013904223;
-                    mind.takeTo(wall, ((z & Integer.MAX_VALUE) / 256) % HOUSES);
+                    mind.takeTo(wall, ((z & 0x7fffffff) / 256) % HOUSES);
                 }
                 goOn(PARTS);
                 sum += askSeen ? bitsIn(mind.seenBits()) : mind.allLacking();

@@ -92,6 +92,7 @@ final class ChoicesTest {
         pricing("ww40;n2555555;n3555555;n1111111;", 0, 2, 2);
         pricing("ww43;n2444444;n4444444;", 0, 2, 3);
         pricing("ww43;n1999999;n4333333;", 0, 1, 2);
+        pricing("ww41;n0999999;n2333333;", 0, 0, 2);
         pricing("ww40;", 0, -9, 0);
         pricing("ww40;n1111111;", 0, -9, 0);
         pricing("ww20;n0555555;", 0, 0, 0);
@@ -131,6 +132,9 @@ final class ChoicesTest {
         x.needs(3, 4, 6);
         Due.due("another part", x.coldest(0), 4);
         Due.due("its needs", x.coldest(1), 11);
+        x.needs(5, 1, 9);
+        Due.due("the second part", x.coldest(0), 1);
+        Due.due("needs of the second part", x.coldest(1), 16);
         Due.due("coldest(2)", x.coldest(2), -2);
         Due.due("coldest(-1)", x.coldest(-1), -2);
     }

@@ -233,16 +233,19 @@ final class HandTest {
     }
 
     private static void image() {
-        WallsByTheHour x = Due.told("ww40;n1111111;b12;h03;");
+        WallsByTheHour x = Due.told("ww40;n1111111;n7444444;b12;h03;");
         Due.due("on() without one", x.on(), -3);
         Due.due("image()", x.image(), 3);
         x.row(7);
-        x.letter('w');
+        x.takes(0, 6);
+        x.hours(1);
+        Due.due("a hole more", x.wall(0, 4), 2);
+        x.takes(0, 7);
         x.sells(0, 5);
-        x.turn(0, 2, 9);
+        x.turn(0, 2, 3);
         x.needs(1, 0, 8);
         x.bars(1, 2);
-        Due.tell(x, "ww11;");
+        Due.due("a wall more", Due.tell(x, "ww11;"), 1);
         x.letter('w');
         x.hours(20);
         x.on();
