@@ -12,6 +12,9 @@ public final class AllTests {
         OddsTest.run();
         GoneByTest.run();
         RowTest.run();
+        BoundsTest.run();
+        EdgesTest.run();
+        QuestionEdgesTest.run();
         ModelTest.run();
         System.out.println(Due.passed() + " passed, " + Due.failed() + " failed");
         if (Due.failed() != 0 || Due.passed() == 0) {
