@@ -11,22 +11,24 @@ final class BoundsTest {
     private static final String RICH = """
         tell ww40;wo31;wb62;n0111111;n3099999;n5300303;b12;b57; = 8
         takes(2, 6) = 2
-        hours(4) = 4
+        hours(4) = 2
         image() = 4
-        hours(1) = 8
+        hours(1) = 2
         sells(1, 4) = 1
         needs(7, 5, 3) = 0
-        row(0) = 1
-        row(3) = 2
+        row(3) = 1
+        row(0) = 2
+        row(3) = 3
         letters n31234
         """;
     /** Seven WALLS, as many as there can be. */
     private static final String SEVEN = """
         tell ww40;wo31;wb62;wp53;wl24;wf15;wb97; = 7
-        tell n0999999;n1234567;n4111111;b06;b60;h09; = 6
+        tell n0999999;n1234567;n3999999;n4999999;b06;b60;h09; = 7
         image() = 9
         tell m07;m64;s21;h02; = 4
-        row(7) = 1
+        row(4) = 1
+        row(4) = 2
         letters n31234
         """;
     private static final String BARE = "";
@@ -51,12 +53,69 @@ final class BoundsTest {
     }
 
     static void run() throws Exception {
+        Script.run(RICH);
+        Script.run(SEVEN);
         for (int walls : new int[] {0, 3, 7}) {
             oneArgument(walls);
             ofWalls(walls);
             ofHouses(walls);
             hoursOnAndMore(walls);
         }
+        noRoom();
+        noImage();
+        questionsAndTheImage();
+    }
+
+    /** Refused for what there is already, not for the number. */
+    private static void noRoom() throws Exception {
+        for (String street : new String[] {RICH, SEVEN}) {
+            String full = street + "90 times letter(59)\n";
+            for (int sign : new int[] {0, 59, 255, 256}) {
+                Script.after("96 letters", full, "letter(" + sign + ")", -6L);
+            }
+            Script.after("96 letters", full, "letter(-1)", -4L);
+            Script.after("95 letters", street + "89 times letter(59)\n", "letter(59)", 96L);
+            String sixteen = street + (street.equals(RICH) ? 13 : 14) + " times row(3)\n";
+            for (int number : new int[] {0, 3, 99, 100}) {
+                Script.after("16 numbers", sixteen, "row(" + number + ")", -6L);
+            }
+            Script.after("16 numbers", sixteen, "row(-1)", -4L);
+            Script.after("16 numbers", sixteen, "clear()", 16L);
+            int left = 999 - 16 * 60 - (street.equals(RICH) ? 5 : 11);
+            String late = street + "16 times hours(60)\nhours(" + (left - 20) + ")\n";
+            Script.after("20 HOURS left", late, "hours(20)", null);
+            Script.after("20 HOURS left", late, "hours(21)", -6L);
+            Script.after("20 HOURS left", late, "hours(60)", -6L);
+            Script.after("20 HOURS left", late, "hours(0)", -4L);
+            Script.after("no HOURS left", late + "hours(20)\n", "hours(1)", -6L);
+            Script.after("no HOURS left", late + "hours(20)\n", "count(1)", 999L);
+        }
+    }
+
+    private static void noImage() throws Exception {
+        String none = RICH.replaceAll(" *image.*\n", "");
+        Script.after("no IMAGE", none, "on()", -3L);
+        Script.after("an IMAGE", RICH, "on()", 4L);
+        Script.after("an IMAGE", SEVEN, "on()", 9L);
+    }
+
+    /** What is asked between THE IMAGE and ON from it leaves THE IMAGE as it is. */
+    private static void questionsAndTheImage() throws Exception {
+        String asked = RICH + """
+            count(1)
+            count(3)
+            house(0, 2)
+            house(7, 5)
+            wall(0, 3)
+            wasSeen(0, 0, 999)
+            longest(0)
+            whatIs(0, 0)
+            judge()
+            on()
+            """;
+        Script.after("asked, and ON", asked, "count(1)", 4L);
+        Script.after("asked, and ON", asked, "needs(7, 5, 0)", 0L);
+        Script.after("asked, and ON", asked, "wall(1, 2)", 1L);
     }
 
     private static void oneArgument(int walls) throws Exception {

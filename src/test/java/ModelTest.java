@@ -6,8 +6,10 @@ import java.util.Random;
 
 /** Runs of calls by lot, with odd arguments among them: the class answers as the Model does. */
 final class ModelTest {
-    private static final int RUNS = Integer.getInteger("runs", 400);
+    private static final int RUNS = Integer.getInteger("runs", 800);
     private static final int CALLS = 150;
+    /** No more is begun behind so many calls: the document promises 512, and what is begun takes some 100. */
+    private static final int ENOUGH = 400;
     private static final int[] ODD = {-1, -2, 8, 9, 10, 16, 17, 60, 61, 99, 100, 255, 256, 999, 1000,
         Integer.MIN_VALUE, Integer.MAX_VALUE};
 
@@ -15,6 +17,7 @@ final class ModelTest {
     private final WallsByTheHour it = new WallsByTheHour();
     private final Model model = new Model();
     private final List<String> calls = new ArrayList<>();
+    private int asked = 0;
     private static final List<Method> FACE = new ArrayList<>();
 
     private ModelTest(long seed) {
@@ -30,7 +33,9 @@ final class ModelTest {
         FACE.sort((a, b) -> a.getName().compareTo(b.getName()));
         int seed = Integer.getInteger("seed", 0);
         for (int run = seed; run < seed + RUNS; run++) {
-            boolean asDue = new ModelTest(run).isAsTheModel();
+            ModelTest test = new ModelTest(run);
+            boolean asDue = test.isAsTheModel();
+            Due.so("the run by lot " + run + " has 512 calls at most", test.asked <= 512);
             Due.so("the run by lot " + run + " goes as the model goes", asDue);
             if (!asDue) {
                 return;
@@ -40,7 +45,7 @@ final class ModelTest {
 
     private boolean isAsTheModel() throws Exception {
         tell(streetByLot(9));
-        for (int i = 0; i < CALLS; i++) {
+        for (int i = 0; i < CALLS && asked < ENOUGH; i++) {
             if (lot.nextInt(25) == 0) {
                 tell(streetByLot(4));
             } else if (lot.nextInt(12) == 0) {
@@ -71,6 +76,7 @@ final class ModelTest {
         Method due = Model.class.getDeclaredMethod(name, types);
         long got = ((Number) mine.invoke(it, (Object[]) arguments)).longValue();
         long want = ((Number) due.invoke(model, (Object[]) arguments)).longValue();
+        asked++;
         calls.add(name + Arrays.toString(arguments) + " answered " + got + (got == want ? "" : ", due is " + want));
     }
 
@@ -120,24 +126,30 @@ final class ModelTest {
         call("clear");
         int wall = lot.nextInt(7);
         boolean isOfWall = lot.nextBoolean() && wall < it.count(0);
+        asked++;
         int length = lot.nextInt(17);
         int slip = lot.nextInt(40);
         for (int n = 0; n < length; n++) {
-            int number = isOfWall ? it.atThen(wall, n) : it.allLack(n);
+            int number = peek(isOfWall, wall, n);
             if (isOfWall) {
                 call("atThen", wall, n);
-                number = it.atThen(wall, n);
             }
             call("row", Math.max(0, number) + (n == slip ? 1 : 0));
         }
         model.clear();
         it.clear();
+        asked++;
         refill(isOfWall, wall, length, slip);
+    }
+
+    private int peek(boolean isOfWall, int wall, int n) {
+        asked++;
+        return isOfWall ? it.atThen(wall, n) : it.allLack(n);
     }
 
     private void refill(boolean isOfWall, int wall, int length, int slip) throws Exception {
         for (int n = 0; n < length; n++) {
-            int number = isOfWall ? it.atThen(wall, n) : it.allLack(n);
+            int number = peek(isOfWall, wall, n);
             call("row", Math.min(99, Math.max(0, number) + (n == slip ? 1 : 0)));
         }
         if (isOfWall) {
