@@ -63,6 +63,7 @@ final class BoundsTest {
         }
         noRoom();
         noImage();
+        faults();
         questionsAndTheImage();
     }
 
@@ -97,6 +98,19 @@ final class BoundsTest {
         Script.after("no IMAGE", none, "on()", -3L);
         Script.after("an IMAGE", RICH, "on()", 4L);
         Script.after("an IMAGE", SEVEN, "on()", 9L);
+    }
+
+    /** With a FAULT nothing comes, and nothing is counted. */
+    private static void faults() throws Exception {
+        for (String street : new String[] {RICH, SEVEN}) {
+            String told = street.replaceAll(" *letters .*\n", "");
+            Script.after("of kind 1", told, "tell m06;s06;n0222222;b01;h05;x", -1025L);
+            Script.after("of kind 1, at the end", told, "tell m06;s06;n0222222;b01;h05", -1024L);
+            Script.after("of kind 1, no letters", told, "tell ", -1000L);
+            Script.after("of kind 2", told, "tell m06;s06;n0222222;b01;h05;b44;", -2025L);
+            Script.after("of kind 2, the first STATEMENT", told, "tell m08;s06;n0222222;b01;h05;", -2000L);
+        }
+        Script.after("of kind 2, no room", SEVEN.replaceAll(" *letters .*\n", ""), "tell m06;ww40;", -2004L);
     }
 
     /** What is asked between THE IMAGE and ON from it leaves THE IMAGE as it is. */

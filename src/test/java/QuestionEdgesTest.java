@@ -18,6 +18,7 @@ final class QuestionEdgesTest {
         waysAndRain();
         goneBy();
         rows();
+        rowsAndLettersStay();
         image();
         refusals();
     }
@@ -632,6 +633,58 @@ final class QuestionEdgesTest {
             row(99) = 1
             row(1) = 2
             judge() = 0
+            """);
+    }
+
+    private static void rowsAndLettersStay() throws Exception {
+        Script.run("""
+            # 2, 39: the ROW and letters stay, whatever is done by hand
+            tell ww40;n3111111; = 2
+            letters b0
+            row(1) = 1
+            row(0) = 2
+            row(0) = 3
+            image() = 0
+            takes(0, 0) = 0
+            sells(0, 0) = 0
+            needs(3, 0, 1) = 1
+            turn(0, 0, 4) = 4
+            bars(0, 1) = 1
+            on() = 0
+            count(6) = 3
+            count(7) = 2
+            judge() = -9
+            # 3: the ROW stays as the letters become a STREET, and with a FAULT
+            row(1) = 1
+            row(0) = 2
+            tell 2; = 1
+            house(0, 5) = 4
+            count(6) = 2
+            tell b00; = -2000
+            tell n3222222;ww0; = -1012
+            tell ww40;n3222222;h01;m20; = -2018
+            count(6) = 2
+            whatIs(0, 0) = 0
+            judge() = -9
+            row(0) = 1
+            row(3) = 2
+            whatIs(0, 0) = 7
+            tell b02; = 1
+            whatIs(0, 0) = 7
+            # 11: and as HOURS go by
+            row(0) = 3
+            hours(1) = 0
+            count(6) = 3
+            clear() = 3
+            # 39: letters stay as the ROW comes and goes
+            letters h0
+            row(0) = 1
+            clear() = 1
+            row(0) = 1
+            judge() = -9
+            count(7) = 2
+            tell 2; = 1
+            count(1) = 3
             """);
     }
 
