@@ -5,6 +5,8 @@ public final class AllTests {
 
     public static void main(String[] args) throws Exception {
         FaceTest.run();
+        RulesTest.run();
+        ReadmeTest.run();
         LettersTest.run();
         HandTest.run();
         MindTest.run();

